@@ -308,6 +308,14 @@ public final class PromisesTest {
             "###.###.#");
         due("9 winding", 1, x.of(winding, 5));
         due("9 winding", 24, x.of(winding, 6));
+        int rising = add(x,
+            "..#..#.",
+            "##.##.#",
+            ".......",
+            "...#...");
+        due("9 runs of one row joined from above", 7, x.of(rising, 6));
+        due("9 and all of them taken", 8, x.take(rising, 7, 0));
+        due("9 and all of them taken", 0, x.of(rising, 2));
         int falling = add(x, "..#", ".#.", "#..", ".#.", "..#");
         due("9 falling", 1, x.of(falling, 5));
         x.page(64, 64);
@@ -356,12 +364,19 @@ public final class PromisesTest {
         due("11 last row", 2, x.unlike(0, 1));
         x.set(0, 0, 1, true);
         due("11 the first one of two", 1, x.unlike(1, 0));
+        x.set(1, 0, 0, false);
+        due("11 row 0", 0, x.unlike(0, 1));
         add(x, "##.", "...", "#..");
         add(x, "##", "..");
         due("11 w", 100, x.unlike(0, 2));
         due("11 h", 100, x.unlike(3, 0));
-        due("11 none such", -2, x.unlike(0, 4));
-        due("11 none such", -2, x.unlike(4, 0));
+        x.page(64, 64);
+        x.copy(4);
+        due("11 the largest ones", NONE, x.unlike(4, 5));
+        x.set(5, 63, 63, true);
+        due("11 the last row of the largest ones", 63, x.unlike(4, 5));
+        due("11 none such", -2, x.unlike(0, 6));
+        due("11 none such", -2, x.unlike(6, 0));
         due("11 none such", -2, x.unlike(-1, 0));
         due("11 none such", -2, x.unlike(9, 9));
     }
@@ -455,6 +470,14 @@ public final class PromisesTest {
         due("14 and stays", 30, x.of(4, 0));
         due("14 all three fit", true, x.turn(4, 16, 0));
         due("14 all three fit", 62, x.of(4, 0));
+        x.page(34, 16);
+        due("14 just wide enough at last", true, x.turn(5, 16, 0));
+        due("14 just wide enough at last", 64, x.of(5, 0));
+        x.page(17, 48);
+        due("14 just high enough", true, x.turn(6, 0, 16));
+        due("14 just high enough", 64, x.of(6, 1));
+        x.page(64, 1);
+        due("14 just wide enough all along", true, x.turn(7, 16, 0));
     }
 
     private static void sharp() {
@@ -508,9 +531,19 @@ public final class PromisesTest {
         x.set(6, 0, 0, true);
         x.set(6, 16, 1, true);
         due("16 below 0 where that alone is more", -1, x.angle(6));
+        due("16 by 12 alone", 12, angleOfPair(4, 0, 0, 3));
+        due("16 by -12 alone", -12, angleOfPair(0, 0, 11, 9));
         due("16 page", NONE, x.angle(8));
         due("16 page", NONE, x.angle(-1));
         due("16 of 1 and -1 alike: the one above 0", 1, angleOfTwins());
+    }
+
+    private static int angleOfPair(int x0, int y0, int x1, int y1) {
+        StraightPages x = new StraightPages();
+        x.page(16, 16);
+        x.set(0, x0, y0, true);
+        x.set(0, x1, y1, true);
+        return x.angle(0);
     }
 
     /** By 1 two points come into one row, by -1 two others; by 0 none: answers the angle. */
@@ -555,9 +588,11 @@ public final class PromisesTest {
         x.page(64, 64);
         x.set(2, 63, 0, true);
         x.set(2, 55, 63, true);
-        due("17 far", 1, x.bend(2));
+        x.set(2, 0, 9, true);
+        due("17 far", 2, x.bend(2));
+        due("17 far", 1, x.at(2, 0, 63));
         due("17 far", 1, x.at(2, 63, 63));
-        due("17 far", 2, x.of(2, 2));
+        due("17 far", 3, x.of(2, 2));
     }
 
     private static void foot() {
@@ -615,6 +650,18 @@ public final class PromisesTest {
         due("19 all stays", 11, x.of(0, 2));
         x.page(4, 4);
         due("19 no ink", 0, x.specks(1, 5, 5));
+        int block = add(x, "#....#", "......", "..##..", "..##..", "......", "#....#");
+        due("19 far from it on all sides", 4, x.specks(block, 3, 1));
+        due("19 near it on all sides", 0, x.specks(block, 3, 2));
+        x.page(64, 64);
+        x.lay(3, 63, 3, 1, 0xFL << 60, 0L);
+        x.set(3, 63, 43, true);
+        x.set(3, 40, 63, true);
+        due("19 d 19 in the far corner", 2, x.specks(3, 3, 19));
+        due("19 d 20 in the far corner", 0, x.specks(3, 3, 20));
+        x.set(3, 39, 63, true);
+        x.set(3, 40, 63, false);
+        due("19 a column farther", 1, x.specks(3, 3, 20));
     }
 
     private static void take() {
@@ -775,6 +822,11 @@ public final class PromisesTest {
         due("24 all of it", true, x.cut(4, 0));
         due("24 all of it", Long.MIN_VALUE, x.row(4, 63));
         due("24 no more", false, x.cut(4, 1));
+        x.set(4, 0, 0, false);
+        due("24 the far corner alone", true, x.cut(4, 20));
+        due("24 the far corner alone", 41, x.of(4, 1));
+        due("24 the far corner alone", 1, x.at(4, 20, 20));
+        due("24 the far corner alone", 1, x.of(4, 2));
     }
 
     private static void tells(String what, StraightPages x, int... numbers) {
@@ -861,6 +913,12 @@ public final class PromisesTest {
         StraightPages nearer = desk("#.###.##.");
         nearer.part(0, 1, 7, 0);
         due("26 5 is nearer to 4 than 1", 5, nearer.of(0, 0));
+        StraightPages last = desk("###.#");
+        last.part(0, 1, 3, 0);
+        due("26 the seam at b", 3, last.of(0, 0));
+        StraightPages first = desk("#.###");
+        first.part(0, 1, 3, 0);
+        due("26 the seam at a", 1, first.of(0, 0));
     }
 
     private static void seamIs(String what, int want, int w, int a, int b) {
