@@ -18,6 +18,7 @@ public final class StraightPages {
     private static final int MOST_CHANGES = 10;
     private static final int MOST_SHEAR = 16;
     private static final int MOST_SHARP_SHEAR = 12;
+    private static final int SHEAR_PARTS = 16;
     private static final int MOST_SPECK = 100;
     private static final int MOST_REACH = 20;
     private static final int MOST_MARGIN = 20;
@@ -480,7 +481,7 @@ public final class StraightPages {
 
     /** How far row (or column) i slides by s, as told from row (or column) 0. */
     private static int slide(int s, int i) {
-        return Math.floorDiv(s * i, MOST_SHEAR);
+        return Math.floorDiv(s * i, SHEAR_PARTS);
     }
 
     /** Slides only rise or only fall from 0 on, so the last of n is the least one or the greatest. */
