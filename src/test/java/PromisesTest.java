@@ -49,45 +49,9 @@ public final class PromisesTest {
         CHECKS.due(what, want, got);
     }
 
-    /** A desk with one page of these rows, # for ink, the first sign at x 0; no change to take back. */
-    private static StraightPages desk(String... rows) {
-        StraightPages x = new StraightPages();
-        add(x, rows);
-        return x;
-    }
-
-    private static int add(StraightPages x, String... rows) {
-        int page = x.page(rows[0].length(), rows.length);
-        for (int y = 0; y < rows.length; y++) {
-            x.lay(page, y, 3, 1, bits(rows[y]), 0L);
-        }
-        return page;
-    }
-
-    private static long bits(String row) {
-        long bits = 0L;
-        for (int i = 0; i < row.length(); i++) {
-            if (row.charAt(i) == '#') {
-                bits |= 1L << i;
-            }
-        }
-        return bits;
-    }
-
-    private static String picture(StraightPages x, int page) {
-        StringBuilder text = new StringBuilder();
-        for (int j = 0; j < x.of(page, 1); j++) {
-            for (int i = 0; i < x.of(page, 0); i++) {
-                text.append(x.at(page, i, j) == 1 ? '#' : '.');
-            }
-            text.append('/');
-        }
-        return text.toString();
-    }
-
     private static void looks(String what, StraightPages x, int page, String... rows) {
         String want = String.join("/", rows) + "/";
-        String got = picture(x, page);
+        String got = Desk.picture(x, page);
         CHECKS.hold(what + ": page " + page + " is " + got + ", due is " + want, got.equals(want));
     }
 
@@ -120,7 +84,7 @@ public final class PromisesTest {
         }
         due("2 eight", NONE, x.page(3, 3));
         due("2 pages", 8, x.count(0));
-        StraightPages y = desk("###", "###");
+        StraightPages y = Desk.of("###", "###");
         y.part(0, 1, 1, 9);
         y.back();
         due("2 in the place of one that is gone", 1, y.page(2, 2));
@@ -128,7 +92,7 @@ public final class PromisesTest {
     }
 
     private static void copy() {
-        StraightPages x = desk("#..", ".##");
+        StraightPages x = Desk.of("#..", ".##");
         x.set(0, 1, 0, true);
         due("3 copy", 1, x.copy(0));
         looks("3 copy", x, 1, "##.", ".##");
@@ -147,7 +111,7 @@ public final class PromisesTest {
     }
 
     private static void set() {
-        StraightPages x = desk("...", "...");
+        StraightPages x = Desk.of("...", "...");
         due("4 set", true, x.set(0, 2, 1, true));
         looks("4 set", x, 0, "...", "..#");
         due("4 set again", true, x.set(0, 2, 1, true));
@@ -166,7 +130,7 @@ public final class PromisesTest {
     }
 
     private static void line() {
-        StraightPages x = desk("....", "####");
+        StraightPages x = Desk.of("....", "####");
         due("5 line", 2, x.line(0, 0, 9L));
         looks("5 line", x, 0, "#..#", "####");
         due("5 those from w on", 4, x.line(0, 0, -1L));
@@ -224,7 +188,7 @@ public final class PromisesTest {
     }
 
     private static void layKeepsItsOrderOfRefusals() {
-        StraightPages x = desk("##", "..");
+        StraightPages x = Desk.of("##", "..");
         x.set(0, 0, 1, true);
         due("6 page", NONE, x.lay(1, 0, 0, 1, 0L, 0L));
         due("6 page", NONE, x.lay(-1, 0, 0, -1, 0L, 0L));
@@ -245,7 +209,7 @@ public final class PromisesTest {
     }
 
     private static void at() {
-        StraightPages x = desk("#.", ".#", "..");
+        StraightPages x = Desk.of("#.", ".#", "..");
         due("7 ink", 1, x.at(0, 1, 1));
         due("7 none", 0, x.at(0, 1, 2));
         int[][] wrong = {{1, 0, 0}, {-1, 0, 0}, {0, 2, 0}, {0, -1, 0}, {0, 0, 3}, {0, 0, -1},
@@ -260,7 +224,7 @@ public final class PromisesTest {
     }
 
     private static void row() {
-        StraightPages x = desk("#.#", "...");
+        StraightPages x = Desk.of("#.#", "...");
         due("8 row", 5, x.row(0, 0));
         due("8 row", 0, x.row(0, 1));
         CHECKS.throwsNoSuchElement("8 row 2", () -> x.row(0, 2));
@@ -271,7 +235,7 @@ public final class PromisesTest {
     }
 
     private static void of() {
-        StraightPages x = desk(
+        StraightPages x = Desk.of(
             "#....",
             ".#..#",
             "....#",
@@ -293,7 +257,7 @@ public final class PromisesTest {
     }
 
     private static void spotsOfManyForms() {
-        StraightPages x = desk(
+        StraightPages x = Desk.of(
             "#.#.#",
             ".....",
             "#.#.#",
@@ -301,14 +265,14 @@ public final class PromisesTest {
             ".###.");
         due("9 apart", 5, x.of(0, 5));
         due("9 largest", 7, x.of(0, 6));
-        int winding = add(x,
+        int winding = Desk.add(x,
             "#.###.###",
             "#.#.#.#.#",
             "#.#.#.#.#",
             "###.###.#");
         due("9 winding", 1, x.of(winding, 5));
         due("9 winding", 24, x.of(winding, 6));
-        int rising = add(x,
+        int rising = Desk.add(x,
             "..#..#.",
             "##.##.#",
             ".......",
@@ -316,7 +280,7 @@ public final class PromisesTest {
         due("9 runs of one row joined from above", 7, x.of(rising, 6));
         due("9 and all of them taken", 8, x.take(rising, 7, 0));
         due("9 and all of them taken", 0, x.of(rising, 2));
-        int falling = add(x, "..#", ".#.", "#..", ".#.", "..#");
+        int falling = Desk.add(x, "..#", ".#.", "#..", ".#.", "..#");
         due("9 falling", 1, x.of(falling, 5));
         x.page(64, 64);
         int full = x.count(0) - 1;
@@ -336,7 +300,7 @@ public final class PromisesTest {
     }
 
     private static void count() {
-        StraightPages x = desk("#.#", "...");
+        StraightPages x = Desk.of("#.#", "...");
         due("10 pages", 1, x.count(0));
         x.take(0, 1, 0);
         due("10 changes", 1, x.count(1));
@@ -356,7 +320,7 @@ public final class PromisesTest {
     }
 
     private static void unlike() {
-        StraightPages x = desk("##", "..", "#.");
+        StraightPages x = Desk.of("##", "..", "#.");
         x.copy(0);
         due("11 alike", NONE, x.unlike(0, 1));
         due("11 itself", NONE, x.unlike(0, 0));
@@ -366,8 +330,8 @@ public final class PromisesTest {
         due("11 the first one of two", 1, x.unlike(1, 0));
         x.set(1, 0, 0, false);
         due("11 row 0", 0, x.unlike(0, 1));
-        add(x, "##.", "...", "#..");
-        add(x, "##", "..");
+        Desk.add(x, "##.", "...", "#..");
+        Desk.add(x, "##", "..");
         due("11 w", 100, x.unlike(0, 2));
         due("11 h", 100, x.unlike(3, 0));
         x.page(64, 64);
@@ -382,7 +346,7 @@ public final class PromisesTest {
     }
 
     private static void across() {
-        StraightPages x = desk("#.", "#.", "#.", "##");
+        StraightPages x = Desk.of("#.", "#.", "#.", "##");
         due("12 down to the right", 3, x.across(0, 6));
         looks("12 by 6: 0 0 0 1", x, 0, "#..", "#..", "#..", ".##");
         x.back();
@@ -412,7 +376,7 @@ public final class PromisesTest {
     }
 
     private static void upright() {
-        StraightPages x = desk("####", "#...");
+        StraightPages x = Desk.of("####", "#...");
         due("13 down to the right", 3, x.upright(0, 6));
         looks("13 by 6: 0 0 0 1", x, 0, "###.", "#..#", "....");
         x.back();
@@ -441,7 +405,7 @@ public final class PromisesTest {
     }
 
     private static void turn() {
-        StraightPages x = desk("##.", "#..", "..#");
+        StraightPages x = Desk.of("##.", "#..", "..#");
         x.copy(0);
         due("14 turn", true, x.turn(0, 8, -7));
         due("14 one change", 1, x.count(1));
@@ -481,7 +445,7 @@ public final class PromisesTest {
     }
 
     private static void sharp() {
-        StraightPages x = desk("##..", "..##");
+        StraightPages x = Desk.of("##..", "..##");
         due("15 straight", 8, x.sharp(0, 0));
         due("15 by 8: 0 0 1 1", 8, x.sharp(0, 8));
         due("15 by -8: 2 1 1 0", 8, x.sharp(0, -8));
@@ -515,17 +479,17 @@ public final class PromisesTest {
     }
 
     private static void angle() {
-        StraightPages x = desk("##..", "..##");
+        StraightPages x = Desk.of("##..", "..##");
         due("16 the sharpest of the least size", -1, x.angle(0));
-        add(x, "..##", "##..");
+        Desk.add(x, "..##", "##..");
         due("16 the other way", 8, x.angle(1));
-        add(x, "####", "....");
+        Desk.add(x, "####", "....");
         due("16 one row", 100, x.angle(2));
-        add(x, "..", "..");
+        Desk.add(x, "..", "..");
         due("16 no ink", 100, x.angle(3));
-        add(x, "#.", "#.");
+        Desk.add(x, "#.", "#.");
         due("16 all alike: 0", 0, x.angle(4));
-        add(x, "#..", ".#.", "#..");
+        Desk.add(x, "#..", ".#.", "#..");
         due("16 below 0 where that is more", -1, x.angle(5));
         x.page(17, 3);
         x.set(6, 0, 0, true);
@@ -561,7 +525,7 @@ public final class PromisesTest {
     }
 
     private static void bend() {
-        StraightPages x = desk(
+        StraightPages x = Desk.of(
             "#.......#.......#",
             ".#..............#",
             ".........#.......",
@@ -596,7 +560,7 @@ public final class PromisesTest {
     }
 
     private static void foot() {
-        StraightPages x = desk(
+        StraightPages x = Desk.of(
             "#.......#........",
             ".......#.........",
             "........#.......#",
@@ -619,7 +583,7 @@ public final class PromisesTest {
     }
 
     private static StraightPages dirty() {
-        return desk(
+        return Desk.of(
             "###.......",
             "###..#....",
             "..........",
@@ -650,7 +614,7 @@ public final class PromisesTest {
         due("19 all stays", 11, x.of(0, 2));
         x.page(4, 4);
         due("19 no ink", 0, x.specks(1, 5, 5));
-        int block = add(x, "#....#", "......", "..##..", "..##..", "......", "#....#");
+        int block = Desk.add(x, "#....#", "......", "..##..", "..##..", "......", "#....#");
         due("19 far from it on all sides", 4, x.specks(block, 3, 1));
         due("19 near it on all sides", 0, x.specks(block, 3, 2));
         x.page(64, 64);
@@ -698,7 +662,7 @@ public final class PromisesTest {
     }
 
     private static void shadow() {
-        StraightPages x = desk(
+        StraightPages x = Desk.of(
             "##..#.#",
             "##....#",
             "#.....#",
@@ -724,14 +688,14 @@ public final class PromisesTest {
         due("21 page", NONE, x.shadow(-1, 5));
         due("21 refused is no change", 0, x.count(1));
         due("21 refused keeps the list", 11, x.count(2));
-        add(x, "###", "###");
+        Desk.add(x, "###", "###");
         due("21 all dark", 0, x.shadow(1, 100));
         due("21 all dark, none taken", 6, x.of(1, 2));
         due("21 an empty list", 0, x.count(2));
         due("21 a change all the same", 1, x.count(1));
-        add(x, ".##", ".##");
+        Desk.add(x, ".##", ".##");
         due("21 right alone", 2, x.shadow(2, 100));
-        add(x, "##.##", "##.##", ".#...");
+        Desk.add(x, "##.##", "##.##", ".#...");
         due("21 two of three are below 67", 0, x.shadow(3, 67));
         due("21 two of three are above 66", 4, x.shadow(3, 66));
         x.page(64, 1);
@@ -742,7 +706,7 @@ public final class PromisesTest {
     }
 
     private static void listed() {
-        StraightPages x = desk("#.#", "...", ".#.");
+        StraightPages x = Desk.of("#.#", "...", ".#.");
         x.take(0, 1, 0);
         due("22 x", 2, x.listed(1, 0));
         due("22 y", 0, x.listed(1, 1));
@@ -771,7 +735,7 @@ public final class PromisesTest {
     }
 
     private static void box() {
-        StraightPages x = desk(".....", "...#.", ".#...", ".....");
+        StraightPages x = Desk.of(".....", "...#.", ".#...", ".....");
         int[] want = {1, 1, 3, 2};
         for (int what = 0; what < 4; what++) {
             due("23 box " + what, want[what], x.box(0, what));
@@ -789,7 +753,7 @@ public final class PromisesTest {
     }
 
     private static void cut() {
-        StraightPages x = desk(".....", "...#.", ".#...", ".....");
+        StraightPages x = Desk.of(".....", "...#.", ".#...", ".....");
         due("24 cut", true, x.cut(0, 0));
         looks("24 cut", x, 0, "..#", "#..");
         due("24 wider than it was", true, x.cut(0, 2));
@@ -837,7 +801,7 @@ public final class PromisesTest {
     }
 
     private static void spans() {
-        StraightPages x = desk(
+        StraightPages x = Desk.of(
             "##..#...#",
             ".........",
             "#.......#",
@@ -879,7 +843,7 @@ public final class PromisesTest {
     }
 
     private static void part() {
-        StraightPages x = desk("###.###", "###.#.#");
+        StraightPages x = Desk.of("###.###", "###.#.#");
         due("26 the least", 1, x.part(0, 1, 6, 0));
         looks("26 left", x, 0, "###", "###");
         looks("26 right", x, 1, ".###", ".#.#");
@@ -906,17 +870,17 @@ public final class PromisesTest {
             x.page(2, 2);
         }
         due("26 eight", NONE, x.part(0, 3, 3, 9));
-        StraightPages two = desk("##..#.##.");
+        StraightPages two = Desk.of("##..#.##.");
         due("26 nearest of the empty ones: 3 and 5 are alike far from 4, so the left one", 1,
             two.part(0, 1, 7, 0));
         due("26 left", 3, two.of(0, 0));
-        StraightPages nearer = desk("#.###.##.");
+        StraightPages nearer = Desk.of("#.###.##.");
         nearer.part(0, 1, 7, 0);
         due("26 5 is nearer to 4 than 1", 5, nearer.of(0, 0));
-        StraightPages last = desk("###.#");
+        StraightPages last = Desk.of("###.#");
         last.part(0, 1, 3, 0);
         due("26 the seam at b", 3, last.of(0, 0));
-        StraightPages first = desk("#.###");
+        StraightPages first = Desk.of("#.###");
         first.part(0, 1, 3, 0);
         due("26 the seam at a", 1, first.of(0, 0));
     }
@@ -930,7 +894,7 @@ public final class PromisesTest {
     }
 
     private static void partTakenBack() {
-        StraightPages x = desk("#.#.#");
+        StraightPages x = Desk.of("#.#.#");
         x.part(0, 1, 1, 0);
         x.part(1, 2, 2, 0);
         due("26 three", 3, x.count(0));
@@ -955,7 +919,7 @@ public final class PromisesTest {
     }
 
     private static void back() {
-        StraightPages x = desk("..", "..");
+        StraightPages x = Desk.of("..", "..");
         x.page(3, 3);
         x.set(1, 0, 0, true);
         x.set(0, 1, 1, true);
@@ -990,7 +954,7 @@ public final class PromisesTest {
             "#..##.....",
             "#........#",
             "#..#......"};
-        StraightPages x = desk(rows);
+        StraightPages x = Desk.of(rows);
         x.copy(0);
         x.across(0, 5);
         x.upright(0, -5);
@@ -1012,7 +976,7 @@ public final class PromisesTest {
     }
 
     private static void told() {
-        StraightPages x = desk("#.##");
+        StraightPages x = Desk.of("#.##");
         x.spans(0, 0, 1);
         due("28 told", 0, x.told(0));
         due("28 told", 0, x.told(1));
@@ -1031,10 +995,10 @@ public final class PromisesTest {
     }
 
     private static void refusedCallsChangeNothing() {
-        StraightPages x = desk("#.#", "...", ".#.");
+        StraightPages x = Desk.of("#.#", "...", ".#.");
         x.set(0, 1, 0, true);
         x.spans(0, 0, 1);
-        String was = picture(x, 0);
+        String was = Desk.picture(x, 0);
         x.page(0, 0);
         x.copy(4);
         x.set(0, 3, 3, true);
@@ -1049,7 +1013,7 @@ public final class PromisesTest {
         x.cut(0, 40);
         x.spans(0, 9, 1);
         x.part(0, 1, 2, -1);
-        CHECKS.hold("refused: the page stays", picture(x, 0).equals(was));
+        CHECKS.hold("refused: the page stays", Desk.picture(x, 0).equals(was));
         due("refused: pages", 1, x.count(0));
         due("refused: changes", 1, x.count(1));
         due("refused: list", 0, x.count(2));
