@@ -45,6 +45,7 @@ public final class StraightPages {
         list = new Sheet(MOST_SIZE);
         // a page sheared up for its sharpness may be nearly twice as high as a page can be
         bench = new Sheet(2 * MOST_SIZE);
+        // two numbers a span, and one empty column at least between two spans: 32 of them at most
         numbers = new int[MOST_SIZE];
         numberCount = 0;
     }

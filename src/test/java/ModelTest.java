@@ -6,8 +6,8 @@ import java.util.Random;
 
 /** Runs of calls drawn by a fixed seed, each answer held against PlainPages' answer. */
 public final class ModelTest {
-    private static final int RUNS = 600;
-    private static final int CALLS = 512;
+    static final int RUNS = 600;
+    static final int CALLS = 512;
     private static final long THROWN = Long.MIN_VALUE + 1;
     private static final String[] NAMES = {
         "page", "copy", "set", "line", "lay", "at", "row", "of", "count", "unlike", "across",
